@@ -803,7 +803,7 @@ public final class FractionRun {
         /** The number of the next step, and so how many there were. */
         int step;
         boolean ended;
-        /** How many times the latest step used its fraction. */
+        /** How many times the latest step used its fraction; told right behind a step alone, and so not copied. */
         int timesInStep;
 
         void begin(Fractions told) {
@@ -827,7 +827,6 @@ public final class FractionRun {
             usedBits = 0;
             step = 0;
             ended = false;
-            timesInStep = 0;
         }
 
         void copyFrom(State other) {
@@ -837,7 +836,6 @@ public final class FractionRun {
             usedBits = other.usedBits;
             step = other.step;
             ended = other.ended;
-            timesInStep = other.timesInStep;
         }
 
         boolean hasPowersOf(State other) {

@@ -154,6 +154,10 @@ public final class PromiseTest {
         due("wipe", x.wipe(), 0);
         due("write", x.write('s'), 1);
         due("count(0) stays", x.count(0), 6);
+        put(x, "1;f1,1,0;");
+        x.wipe();
+        put(x, "s1;f1,1,0");
+        due("what was wiped is no more read", x.fault(), 3);
     }
 
     private static void fault() {
@@ -492,6 +496,17 @@ public final class PromiseTest {
         due("round from 198 to 200", far.round(1), 2);
         far.multiply(0, 1);
         due("round from 199 to 201", far.round(1), NONE);
+        // 66 twos become threes in two steps each, and twos again in one.
+        FractionRun whole = laid("f21,10,0;f5,7,0;f11,5,0;f2,3,0;f5,11,0;s40;");
+        for (int i = 0; i < 7; i++) {
+            whole.multiply(0, 9);
+        }
+        due("not by 200, for not all were used", whole.round(0), NONE);
+        for (int i = 0; i < 4; i++) {
+            whole.steps(50);
+        }
+        due("round from 0 to 200", whole.round(0), 0);
+        due("round from 0 to 200", whole.round(1), 200);
         due("round behind 199", far.round(0), NONE);
         dueEach("round", BAD, x.round(-1), x.round(2), x.round(Integer.MIN_VALUE));
         FractionRun rest = new FractionRun();
@@ -727,6 +742,13 @@ public final class PromiseTest {
         // once, shy, eager and end are told apart by nothing
         due("the first of several", y.look(0, 0), 1);
         due("all alike", y.look(0, 1), 4);
+        FractionRun far = laid("f1,3,0;f1,2,0;s9;");
+        far.move(1, 0);
+        far.multiply(0, 9);
+        far.multiply(0, 9);
+        // The 19th step uses it by all kinds; in the 20th it is used again as a plain one or a last one.
+        due("the furthest step", far.look(0, 0), 20);
+        due("the furthest step", far.look(0, 1), 4);
     }
 
     private static void duel() {
@@ -757,6 +779,12 @@ public final class PromiseTest {
             most.multiply(0, 9);
         }
         due("2 is at 999", most.duel(1), 1);
+        FractionRun threes = laid("f1,729,0;f1,81,0;");
+        for (int i = 0; i < 111; i++) {
+            threes.multiply(1, 9);
+        }
+        // 999 threes are 166 times 6 and 3, which is too few for the other one; 1000 would not be.
+        due("3 is at 999", threes.duel(1), 166);
     }
 
     private static void odds() {
