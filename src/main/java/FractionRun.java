@@ -472,7 +472,8 @@ public final class FractionRun {
             a = b;
             b = left;
         }
-        return a;
+        // At least 1, so that whatever is told can be divided by it.
+        return Math.max(1, a);
     }
 
     /** Fills bestOrder: behind how many steps it rests by it, or NONE. */
