@@ -408,8 +408,7 @@ public final class EdgeTest {
             int[] powers = new int[6];
             powers[prime] = 1;
             laid("f1,1,0;s" + PRIMES[prime] + ";").number(powers).does(2, "multiply", prime, 1)
-                .stays(2, "power", prime, 1)
-                .stays(2, "greatest", prime).is(2, "number", prime);
+                .stays(2, "power", prime, 1).stays(2, "greatest", prime).is(2, "number", prime);
         }
         busy().staysBadAround(0, 5, 0, "number", 0).staysBadAround(0, 5, 0, "multiply", 0, 1)
             .staysBadAround(0, 5, 0, "power", 0, 1).staysBadAround(0, 5, 0, "greatest", 0)
@@ -437,9 +436,8 @@ public final class EdgeTest {
         for (int prime = 0; prime < 6; prime++) {
             int square = PRIMES[prime] * PRIMES[prime];
             laid("f1," + square + ",0;s" + PRIMES[prime] + ";").stays(0, "fraction", 0, 5).stays(0, "rests")
-                .is(1, "count", 4)
-                .stays(NO, "steps", 1).does(2, "multiply", prime, 1).stays(1, "fraction", 0, 5).stays(1, "rests")
-                .is(0, "count", 4).does(1, "steps", 9).is(0, "number", prime);
+                .is(1, "count", 4).stays(NO, "steps", 1).does(2, "multiply", prime, 1).stays(1, "fraction", 0, 5)
+                .stays(1, "rests").is(0, "count", 4).does(1, "steps", 9).is(0, "number", prime);
         }
         laid("f1,6,0;s2;").is(0, "fraction", 0, 5).does(0, "multiply", 0, -1).does(1, "multiply", 1, 1)
             .is(0, "fraction", 0, 5).does(1, "multiply", 0, 1).is(1, "fraction", 0, 5);
@@ -450,11 +448,9 @@ public final class EdgeTest {
         for (int prime = 0; prime < 6; prime++) {
             int p = PRIMES[prime];
             laid("f" + p * p + ",1,0;").raised(prime, 997).stays(1, "fraction", 0, 5).stays(1, "rests")
-                .does(1, "steps", 2)
-                .is(999, "number", prime).stays(0, "fraction", 0, 5).stays(NO, "steps", 1)
-                .does(998, "multiply", prime, -1)
-                .stays(0, "fraction", 0, 5).stays(NO, "steps", 1).is(1, "count", 4).does(997, "multiply", prime, -1)
-                .is(1, "fraction", 0, 5);
+                .does(1, "steps", 2).is(999, "number", prime).stays(0, "fraction", 0, 5).stays(NO, "steps", 1)
+                .does(998, "multiply", prime, -1).stays(0, "fraction", 0, 5).stays(NO, "steps", 1).is(1, "count", 4)
+                .does(997, "multiply", prime, -1).is(1, "fraction", 0, 5);
             laid("f" + p + "," + p + ",0;").raised(prime, 999).is(1, "fraction", 0, 5).is(NONE, "rests");
         }
         laid("f3,2,0;s4;").raised(1, 999).is(0, "fraction", 0, 5).does(998, "multiply", 1, -1).is(1, "fraction", 0, 5)
@@ -473,8 +469,7 @@ public final class EdgeTest {
     private static void shyOnes() {
         laid("f1,2,2;f1,3,0;s216;").is(1, "fraction", 0, 5).is(0, "used", 1).is(1, "used", 2).is(0, "used", 3)
             .does(1, "steps", 1).is(0, "fraction", 0, 5).is(1, "used", 1).does(3, "multiply", 0, 1)
-            .is(0, "fraction", 0, 5)
-            .does(1, "steps", 1).is(1, "fraction", 0, 5).is(0, "used", 1).is(1, "used", 2);
+            .is(0, "fraction", 0, 5).does(1, "steps", 1).is(1, "fraction", 0, 5).is(0, "used", 1).is(1, "used", 2);
         laid("f1,2,2;s8;").does(1, "steps", 50).stays(NO, "steps", 1).is(1, "count", 4).does(0, "undo").is(1, "rests");
         laid("f1,1,2;f1,1,0;").times(19, "steps", 50).does(48, "steps", 48).is(1, "fraction", 0, 5).is(0, "used", 1)
             .does(1, "steps", 50).is(0, "fraction", 0, 5).is(1, "used", 1).is(0, "used", 2);
@@ -500,13 +495,11 @@ public final class EdgeTest {
     /** "it is ENDED, and RESTS till a DEED that is no STEP. While it RESTS there are no STEPS." */
     private static void endedTillADeed() {
         ended().counts(2, 2, 1, 5, 1, 1, 0, 0, 19, 1).stays(0, "fraction", 0, 5).stays(0, "fraction", 1, 5)
-            .stays(0, "rests")
-            .stays(NONE, "used", 1).stays(3, "power", 0, 1).stays(NO, "steps", 1).stays(NO, "multiply", 2, -1)
-            .stays(BAD, "multiply", 0, 0).stays(BAD, "multiply", 0, 10).stays(NO, "move", 0, 0).stays(BAD, "move", 0, 2)
-            .stays(BAD, "drop", 2).stays(NO, "back");
+            .stays(0, "rests").stays(NONE, "used", 1).stays(3, "power", 0, 1).stays(NO, "steps", 1)
+            .stays(NO, "multiply", 2, -1).stays(BAD, "multiply", 0, 0).stays(BAD, "multiply", 0, 10)
+            .stays(NO, "move", 0, 0).stays(BAD, "move", 0, 2).stays(BAD, "drop", 2).stays(NO, "back");
         ended().does(1, "keep").does(1, "see", 1, 8).does(1, "forget").does(19, "wipe").does(1, "write", 'f')
-            .stays(NO, "lay")
-            .is(1, "count", 9);
+            .stays(NO, "lay").is(1, "count", 9);
         ended().does(1, "multiply", 4, 1).is(0, "count", 9).is(0, "count", 4).does(1, "undo").is(1, "count", 9);
         ended().does(2, "multiply", 0, -1).is(0, "count", 9).does(1, "steps", 5).is(1, "count", 9);
         ended().does(1, "move", 1, 0).is(0, "count", 9).is(1, "used", 1);
@@ -547,15 +540,13 @@ public final class EdgeTest {
         new Scene().put("s1;f1,1,0;").does(10, "wipe").put("s1").stays(0, "fault").put(";f1,1,0").stays(3, "fault")
             .stays(NO, "lay").does(10, "write", ';').does(1, "lay");
         busy().counts(6, 5, 3, 9, 0, 4, 1, 2, 54, 0).does(54, "wipe").counts(6, 5, 3, 9, 0, 4, 1, 2, 0, 0)
-            .number(1, 5, 1, 2)
-            .row(0, 4, 1, 3, 5).stays(NO, "lay").put("f1,1,0;").does(1, "lay");
+            .number(1, 5, 1, 2).row(0, 4, 1, 3, 5).stays(NO, "lay").put("f1,1,0;").does(1, "lay");
     }
 
     /** The FAULT of a text, what LAID answers, and that both change nothing if it is NO. */
     private static void dueFault(int want, String text) {
-        Scene x = laid("f3,2,0;f5,2,1;s24;").does(1, "steps", 1).does(1, "keep").does(1, "see", 1, 0)
-            .does(18, "wipe").put(text)
-            .stays(want, "fault");
+        Scene x = laid("f3,2,0;f5,2,1;s24;").does(1, "steps", 1).does(1, "keep").does(1, "see", 1, 0).does(18, "wipe")
+            .put(text).stays(want, "fault");
         int fractions = (int) text.chars().filter(c -> c == 'f').count();
         if (want != NONE || fractions == 0) {
             x.stays(NO, "lay");
@@ -709,9 +700,8 @@ public final class EdgeTest {
         busy().staysBadAround(0, 5, 0, "fraction", 0, 3).stays(BAD, "fraction", 7, 0).stays(BAD, "fraction", 8, 0)
             .staysBadAround(0, 5, 1, "fraction", 2, 0);
         laid("f1,2,0;f1,3,1;s6;").does(1, "steps", 1).does(1, "multiply", 0, 1).does(1, "drop", 0)
-            .stays(NONE, "fraction", 0, 3)
-            .stays(0, "fraction", 0, 5).stays(1, "fraction", 0, 4).stays(2, "fraction", 0, 2).stays(0, "fraction", 1, 3)
-            .stays(1, "fraction", 1, 5);
+            .stays(NONE, "fraction", 0, 3).stays(0, "fraction", 0, 5).stays(1, "fraction", 0, 4)
+            .stays(2, "fraction", 0, 2).stays(0, "fraction", 1, 3).stays(1, "fraction", 1, 5);
         laid("f1,2,0;f1,3,0;s6;").stays(1, "fraction", 0, 5).stays(1, "fraction", 1, 5);
     }
 
@@ -767,8 +757,7 @@ public final class EdgeTest {
     private static void drop() {
         laid(ones("000")).staysBadAround(0, 2, 0, "drop", 0).does(2, "drop", 1).row(0, 2).stays(NO, "drop", 1)
             .does(1, "drop", 2).row(0).stays(NO, "drop", 0).stays(NO, "drop", 1).stays(NO, "drop", 2)
-            .stays(BAD, "drop", 3)
-            .is(3, "count", 0);
+            .stays(BAD, "drop", 3).is(3, "count", 0);
         laid("f1,1,0;").stays(NO, "drop", 0).stays(BAD, "drop", 1).stays(BAD, "drop", -1);
         laid(ones("00000000")).stays(BAD, "drop", 8).does(7, "drop", 7).row(0, 1, 2, 3, 4, 5, 6).does(6, "drop", 0)
             .row(1, 2, 3, 4, 5, 6).stays(NO, "drop", 7).stays(NO, "drop", 0);
@@ -778,16 +767,15 @@ public final class EdgeTest {
     private static void undoneOnes() {
         String text = "f1,2,5;f1,3,0;s144;";
         laid(text).stays(NO, "undo").does(1, "steps", 50).does(0, "undo").counts(2, 2, 0, 6, 0, 0, 0, 0, 19, 0)
-            .number(4, 2)
-            .is(0, "fraction", 0, 4).stays(NO, "undo");
+            .number(4, 2).is(0, "fraction", 0, 4).stays(NO, "undo");
         laid(text).does(9, "multiply", 5, 9).does(0, "undo").number(4, 2).stays(NO, "undo");
         laid(text).does(0, "multiply", 0, -4).does(0, "undo").number(4, 2).stays(NO, "undo");
         laid(text).does(0, "move", 0, 1).does(0, "undo").row(0, 1).stays(NO, "undo");
         laid(text).does(1, "drop", 0).does(0, "undo").row(0, 1).is(1, "fraction", 0, 5).stays(NO, "undo");
         halves(50).does(50, "steps", 50).does(6, "undo").number(50).is(0, "count", 2).is(0, "fraction", 0, 4);
         laid(text).does(1, "see", 1, 0).does(2, "multiply", 5, 2).does(1, "keep").does(2, "see", 2, 0).put("s4;")
-            .does(0, "undo")
-            .counts(2, 2, 0, 6, 0, 0, 1, 2, 22, 0).stays(NO, "undo").does(0, "back").is(2, "number", 5).stays(NO, "undo");
+            .does(0, "undo").counts(2, 2, 0, 6, 0, 0, 1, 2, 22, 0).stays(NO, "undo").does(0, "back").is(2, "number", 5)
+            .stays(NO, "undo");
     }
 
     /** "UNDONE are the latest of these (the last 8 can be" */
@@ -910,8 +898,7 @@ public final class EdgeTest {
     /** "How often a FRACTION is USED in 200 STEPS (twice in a STEP, too)." */
     private static void often() {
         laid(ones("00")).staysBadAround(0, 1, 0, "often", 0).stays(200, "often", 0).stays(0, "often", 1)
-            .does(1, "drop", 0)
-            .stays(0, "often", 0).stays(200, "often", 1);
+            .does(1, "drop", 0).stays(0, "often", 0).stays(200, "often", 1);
         laid("f1,1,3;").stays(400, "often", 0);
         laid(ones("00000000")).stays(0, "often", 7).stays(BAD, "often", 8);
         halves(199).stays(199, "often", 0);
@@ -942,15 +929,13 @@ public final class EdgeTest {
     /** "behind how many STEPS (k = -1), the FRACTION at place k. NONE: also not so many. BAD: k below -1, above 7, too." */
     private static void order() {
         halves(200).staysBadAround(-1, 7, 0, "order", 0).stays(200, "order", -1).stays(0, "order", 0)
-            .stays(NONE, "order", 1)
-            .stays(NONE, "order", 7);
+            .stays(NONE, "order", 1).stays(NONE, "order", 7);
         halves(201).stays(NONE, "order", -1).stays(NONE, "order", 0).stays(NONE, "order", 7)
             .staysBadAround(-1, 7, 0, "order", 0);
         halves(0).stays(0, "order", -1).stays(0, "order", 0);
         ended().stays(1, "order", -1).stays(0, "order", 0).stays(1, "order", 1).stays(NONE, "order", 2);
         laid("f1,2,0;f1,4,0;f1,8,0;s64;").stays(2, "order", -1).stays(2, "order", 0).stays(0, "order", 1)
-            .stays(1, "order", 2)
-            .stays(NONE, "order", 3).row(0, 1, 2);
+            .stays(1, "order", 2).stays(NONE, "order", 3).row(0, 1, 2);
     }
 
     /** "of 5 FRACTIONS in THE ROW at most (else none)"; "of several the first" */
@@ -1015,8 +1000,7 @@ public final class EdgeTest {
     private static void map() {
         String fiveForATwo = "f81,2,0;f1,3,0;";
         laid(fiveForATwo).staysBadAround(0, 40, 0, "map", 0, 0).staysBadAround(0, 40, 0, "map", 0, 1)
-            .stays(0, "map", 0, 0).stays(0, "map", 40, 0)
-            .stays(0, "map", 40, 1);
+            .stays(0, "map", 0, 0).stays(0, "map", 40, 0).stays(0, "map", 40, 1);
         laid("f1,1,1;" + fiveForATwo).stays(0, "map", 39, 0).stays(NONE, "map", 40, 0)
             .staysBadAround(0, 40, 0, "map", 0, 0);
         laid("f3,2,0;").stays(0, "map", 0, 1).stays(40, "map", 40, 1).stays(39, "map", 39, 1);
@@ -1031,8 +1015,7 @@ public final class EdgeTest {
             .stays(40, "sources", 1, 40, 1).stays(0, "sources", 1, 41, 0).stays(NONE, "sources", 1, 41, 1)
             .stays(41, "sources", 0, 0, 0).stays(0, "sources", 0, 999, 0).stays(NONE, "sources", 0, 999, 1);
         laid("f729,1,0;f3,1,0;").stays(41, "sources", 1, 999, 0).stays(0, "sources", 1, 999, 1)
-            .stays(0, "sources", 1, 998, 0)
-            .stays(NONE, "sources", 1, 998, 1);
+            .stays(0, "sources", 1, 998, 0).stays(NONE, "sources", 1, 998, 1);
         laid("f1,1,1;f81,2,0;f1,3,0;").stays(40, "sources", 0, 0, 0).stays(0, "sources", 0, 0, 1);
         laid("f2,1,0;").stays(0, "sources", 0, 0, 0).stays(NONE, "sources", 0, 0, 1);
     }
@@ -1054,8 +1037,7 @@ public final class EdgeTest {
             .stays(0, "whence");
         laid("f2,1,0;").does(1, "steps", 1).stays(1, "whence").does(0, "multiply", 0, -1).stays(0, "whence");
         laid("f1,2,3;").raised(0, 999).does(1, "steps", 1).is(997, "number", 0).stays(1, "whence")
-            .does(998, "multiply", 0, 1)
-            .stays(0, "whence").does(999, "multiply", 0, 1).stays(0, "whence");
+            .does(998, "multiply", 0, 1).stays(0, "whence").does(999, "multiply", 0, 1).stays(0, "whence");
         laid("f1,2,3;s2;").does(1, "steps", 1).number().stays(1, "whence").does(1, "multiply", 0, 1).stays(1, "whence");
         laid("f2,1,3;").does(1, "steps", 1).number(2).stays(1, "whence").does(1, "multiply", 0, -1).stays(0, "whence")
             .raised(0, 996).is(997, "number", 0).stays(1, "whence").does(999, "multiply", 0, 2).stays(1, "whence");
@@ -1158,10 +1140,9 @@ public final class EdgeTest {
     /** "PASSED OVER by x (0 to 10)"; "(Lowest terms; 0 by 1.)"; "BAD (f as for see())." */
     private static void odds() {
         Scene x = laid("f1,1,0;f1,2,0;f1,1,0;f1,1,0;").staysBadAround(0, 3, 0, "odds", 0, 5, 0)
-            .stays(BAD, "odds", 7, 5, 0)
-            .stays(BAD, "odds", 9, 5, 0).staysBadAround(0, 10, 1, "odds", 0, 5, 0)
-            .staysBadAround(0, 10, 1, "odds", 8, 5, 0)
-            .staysBadAround(0, 1, 2, "odds", 0, 5, 0).staysBadAround(0, 1, 2, "odds", 8, 5, 0).does(3, "drop", 3);
+            .stays(BAD, "odds", 7, 5, 0).stays(BAD, "odds", 9, 5, 0).staysBadAround(0, 10, 1, "odds", 0, 5, 0)
+            .staysBadAround(0, 10, 1, "odds", 8, 5, 0).staysBadAround(0, 1, 2, "odds", 0, 5, 0)
+            .staysBadAround(0, 1, 2, "odds", 8, 5, 0).does(3, "drop", 3);
         dueOdds(x, 0, 0, 1, 1);
         dueOdds(x, 0, 1, 9, 10);
         dueOdds(x, 0, 9, 1, 10);
@@ -1301,9 +1282,8 @@ public final class EdgeTest {
             .is(1, "fraction", 0, 4).stays(NO, "undo").stays(NO, "back").does(1, "steps", 1).does(0, "undo");
         ended().does(1, "keep").does(9, "multiply", 5, 9).does(2, "keep").does(1, "steps", 9).does(1, "drop", 1)
             .does(1, "see", 1, 8).does(1, "back").counts(2, 2, 1, 14, 0, 0, 1, 1, 19, 0).number(3, 2, 0, 0, 0, 9)
-            .row(0, 1)
-            .stays(NO, "undo").does(0, "back").counts(2, 2, 1, 5, 1, 0, 0, 1, 19, 1).number(3, 2).stays(NO, "undo")
-            .stays(NO, "back");
+            .row(0, 1).stays(NO, "undo").does(0, "back").counts(2, 2, 1, 5, 1, 0, 0, 1, 19, 1).number(3, 2)
+            .stays(NO, "undo").stays(NO, "back");
         // All is kept but what is seen, so the text is, too.
         laid("f1,1,0;").put("s6;").does(1, "keep").does(10, "wipe").put("s9").does(0, "back").is(10, "count", 8)
             .stays(NONE, "fault").does(1, "lay").number(1, 1).stays(NO, "back");
@@ -1320,9 +1300,8 @@ public final class EdgeTest {
     /** "Of several the first; nothing changes then." */
     private static void ofSeveralTheFirst() {
         halves(0).stays(BAD, "steps", 0).stays(BAD, "steps", 51).stays(BAD, "multiply", 0, -10)
-            .stays(BAD, "multiply", 6, -1)
-            .stays(BAD, "move", 1, 0).stays(BAD, "move", 0, 1).stays(BAD, "drop", 1).stays(BAD, "round", 2)
-            .stays(BAD, "order", 8).stays(BAD, "order", -2);
+            .stays(BAD, "multiply", 6, -1).stays(BAD, "move", 1, 0).stays(BAD, "move", 0, 1).stays(BAD, "drop", 1)
+            .stays(BAD, "round", 2).stays(BAD, "order", 8).stays(BAD, "order", -2);
         laid("f2,1,0;").stays(BAD, "map", 41, 0).stays(BAD, "map", 0, 6).stays(BAD, "round", 2).stays(BAD, "order", 8)
             .stays(BAD, "sources", 6, 0, 1).stays(BAD, "sources", 0, 1000, 1).stays(BAD, "sources", 0, 0, 2)
             .does(1, "see", 1, 8).stays(BAD, "look", 1, 0).stays(BAD, "look", 0, 2);
