@@ -222,7 +222,7 @@ public final class EdgeTest {
         private static final int VIEWS = 4;
         private final List<String> names = new ArrayList<>();
         private final List<int[]> args = new ArrayList<>();
-        private Watched now = new Watched();
+        private final Watched now = new Watched();
         private List<List<Integer>> views = null;
 
         Scene with(String name, int... numbers) {
