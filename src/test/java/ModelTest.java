@@ -732,7 +732,7 @@ public final class ModelTest {
                     call("steps", 50, 0, 0);
                 }
             }
-            int most = 40 + random.nextInt(160);
+            int most = random.nextInt(8) == 0 ? CALLS : 40 + random.nextInt(160);
             for (int i = 0; i < most && calls < CALLS && !differs; i++) {
                 randomCall();
             }
